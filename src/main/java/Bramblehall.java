@@ -613,7 +613,7 @@ public final class Bramblehall {
         }
 
         boolean hangs(int set) {
-            return firstPart(set) == set;
+            return reach(set & -set, set) == set;
         }
 
         boolean independent(int set) {
