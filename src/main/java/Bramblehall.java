@@ -11,6 +11,7 @@ public final class Bramblehall {
     private static final int MOST_COLOURS = 9;
     private static final int MOST_TWINS = 7;
     private static final int PARTITION_CODES = 5040;
+    private static final int TRAILS = 4608;
     private static final int MOST_TRIED = 6;
     private static final int MODEL_SETS = 6;
     private static final String WIDTH_KINDS = "tpcbrdgq";
@@ -1459,7 +1460,6 @@ public final class Bramblehall {
         }
 
         int fewestTooMany(Graph g, char kind) {
-            ready(g);
             int n = g.count();
             for (int fewest = 0; fewest < n; fewest++) {
                 for (int set = 0; set < g.all; set++) {
@@ -1619,7 +1619,7 @@ public final class Bramblehall {
         private final int[] shade = new int[MOST];
         private final int[] shadings = new int[MOST + 1];
         private final int[] ends = new int[SETS];
-        private final int[] trails = new int[SETS * MOST];
+        private final int[] trails = new int[TRAILS];
         private int shadedAge = -1;
 
         int fewestColours(Graph g) {
@@ -1671,43 +1671,47 @@ public final class Bramblehall {
             }
         }
 
+        // A trail begins at the lowest vertex and goes through a set of others, none of which is vertex 0.
         long countRings(Graph g) {
             if (g.count() < 3) {
                 return 0;
             }
             int start = g.all & -g.all;
-            for (int set = start; set <= g.all; set++) {
-                if (g.holds(set) && (set & start) != 0) {
+            int others = g.all & ~start;
+            for (int set = 1; set <= others; set++) {
+                if ((set & ~others) == 0) {
                     countTrails(g, set, start);
                 }
             }
             long closed = 0;
-            for (int v = 0; v < g.given; v++) {
+            for (int v = 1; v < g.given; v++) {
                 if ((g.near[v] & start) != 0) {
-                    closed += trails[g.all * MOST + v];
+                    closed += trails[seatOf(others, v)];
                 }
             }
             return closed / 2;
         }
 
+        private static int seatOf(int set, int end) {
+            return (set >> 1) * (MOST - 1) + end - 1;
+        }
+
         private void countTrails(Graph g, int set, int start) {
-            for (int v = 0; v < g.given; v++) {
-                int bit = 1 << v;
-                int sum = 0;
-                if (set == start) {
-                    sum = bit == start ? 1 : 0;
-                } else if ((set & bit) != 0 && bit != start) {
-                    sum = trailsInto(g, set & ~bit, g.near[v]);
+            for (int v = 1; v < g.given; v++) {
+                int before = set & ~(1 << v);
+                if (before == 0) {
+                    trails[seatOf(set, v)] = (g.near[v] & start) != 0 ? 1 : 0;
+                } else if (before != set) {
+                    trails[seatOf(set, v)] = trailsInto(before, g.near[v]);
                 }
-                trails[set * MOST + v] = sum;
             }
         }
 
-        private int trailsInto(Graph g, int set, int from) {
+        private int trailsInto(int set, int from) {
             int sum = 0;
-            for (int v = 0; v < g.given; v++) {
+            for (int v = 1; v < MOST; v++) {
                 if ((set & from & 1 << v) != 0) {
-                    sum += trails[set * MOST + v];
+                    sum += trails[seatOf(set, v)];
                 }
             }
             return sum;

@@ -116,7 +116,12 @@ public final class HuntTest {
         Due.is("31: now it does", true, () -> x.isBramble());
         x.put(18);
         Due.is("31: the second does not", false, () -> x.isBramble());
-        Due.is("30: two", 2, () -> x.clearFamily());
+        Due.is("30: two sets", 2, () -> x.clearFamily());
+        x.put(1);
+        x.put(4);
+        x.put(24);
+        Due.is("31: the first and the last do not touch", false, () -> x.isBramble());
+        x.clearFamily();
         Due.is("31: emptied", true, () -> x.isBramble());
     }
 

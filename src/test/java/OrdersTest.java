@@ -13,6 +13,7 @@ public final class OrdersTest {
         toldOrder();
         widthsOfToldOrder();
         bounds();
+        ties();
         afterChanges();
         Due.end();
     }
@@ -164,6 +165,32 @@ public final class OrdersTest {
         Due.is("16: and nothing has changed", 6, () -> lone.edges());
         Due.is("17: and nothing has changed", 3, () -> lone.upper());
         Due.is("17: five vertices still", 5, () -> lone.size());
+    }
+
+    /** Graphs in which another choice among several would tell another bound. */
+    private static void ties() {
+        Bramblehall vertex = Due.hall(10, 0, 1, 0, 3, 0, 6, 0, 7, 0, 9, 1, 3, 1, 4, 1, 5, 1, 9, 2, 3, 2, 4, 2, 7, 2, 9,
+                3, 5, 3, 6, 3, 8, 4, 5, 4, 6, 4, 7, 4, 8, 4, 9, 5, 7, 5, 8, 6, 7, 6, 8, 7, 8, 7, 9, 8, 9);
+        Due.is("16: the lowest vertex, not the last", 5, () -> vertex.lower());
+        Bramblehall into = Due.hall(8, 0, 4, 0, 5, 0, 7, 1, 2, 1, 6, 1, 7, 2, 3, 2, 4, 2, 5, 2, 6, 3, 4, 3, 5, 3, 6,
+                4, 7);
+        Due.is("16: the lowest neighbour, not the last", 4, () -> into.lower());
+        Bramblehall least = Due.hall(9, 0, 1, 0, 3, 0, 5, 0, 6, 0, 8, 1, 3, 1, 4, 1, 5, 1, 6, 1, 8, 2, 3, 2, 7, 3, 4,
+                3, 5, 3, 6, 3, 8, 4, 5, 4, 6, 5, 7, 5, 8, 6, 8, 7, 8);
+        Due.is("16: the neighbour of the least degree, not the lowest", 5, () -> least.lower());
+        Bramblehall few = Due.hall(10, 0, 1, 0, 2, 0, 5, 0, 6, 0, 8, 0, 9, 1, 2, 1, 4, 1, 9, 2, 4, 2, 5, 2, 7, 3, 4,
+                3, 5, 3, 6, 3, 8, 4, 5, 4, 9, 5, 6, 5, 9, 6, 7, 6, 9, 7, 8, 8, 9);
+        Due.is("17: then the fewest neighbours, not the lowest", 6, () -> few.upper());
+        Bramblehall lack = Due.hall(10, 0, 2, 0, 3, 0, 4, 0, 5, 0, 6, 1, 2, 1, 3, 1, 4, 1, 5, 1, 6, 1, 7, 1, 8, 1, 9,
+                2, 3, 2, 5, 2, 8, 2, 9, 3, 6, 3, 7, 3, 8, 3, 9, 4, 5, 4, 6, 4, 8, 4, 9, 5, 6, 5, 8, 5, 9, 6, 7, 6, 8,
+                6, 9, 8, 9);
+        Due.is("17: the fewest that lack, not with the neighbours", 6, () -> lack.upper());
+        Bramblehall degree = Due.hall(10, 0, 1, 0, 2, 0, 3, 0, 4, 0, 5, 0, 6, 0, 7, 0, 9, 1, 2, 1, 3, 1, 4, 1, 6, 1, 7,
+                1, 9, 2, 5, 2, 6, 2, 9, 3, 4, 3, 5, 3, 6, 3, 7, 3, 9, 4, 5, 4, 8, 5, 7, 5, 9, 6, 8, 6, 9, 7, 8, 8, 9);
+        Due.is("17: the fewest that lack, ahead of the neighbours", 6, () -> degree.upper());
+        Bramblehall last = Due.hall(10, 0, 3, 0, 4, 0, 5, 0, 8, 0, 9, 1, 2, 1, 3, 1, 5, 1, 7, 1, 9, 2, 3, 2, 4, 2, 6,
+                2, 7, 2, 8, 2, 9, 3, 4, 3, 5, 3, 6, 3, 7, 4, 8, 4, 9, 5, 6, 5, 8, 5, 9, 6, 7, 6, 9, 7, 8);
+        Due.is("17: then the lowest, not the last", 5, () -> last.upper());
     }
 
     private static void afterChanges() {

@@ -127,6 +127,9 @@ public final class ProgramsTest {
         x.edge(0, 2, true);
         Due.is("42: closed", 0L, () -> x.colourings(2));
         Due.is("41: closed", 3, () -> x.colours());
+        x.remove(1);
+        Due.is("42: without one", 6L, () -> x.colourings(3));
+        Due.is("41: without one", 2, () -> x.colours());
         for (int k : new int[] {-1, 10, Integer.MAX_VALUE, Integer.MIN_VALUE}) {
             Due.fails("42: " + k, ARGUMENT, () -> x.colourings(k));
         }

@@ -64,6 +64,7 @@ public final class TwinsTest {
         Due.is("51: two", true, () -> with(4, 7, 14).isAcyclic());
         Due.is("51: three in a ring", false, () -> with(3, 3, 6, 5).isAcyclic());
         Due.is("51: three within a greater one", true, () -> with(3, 3, 6, 5, 7).isAcyclic());
+        Due.is("51: the greater one first", true, () -> with(3, 7, 3, 6, 5).isAcyclic());
         Due.is("51: three around one", true, () -> with(6, 7, 11, 19, 35, 3).isAcyclic());
         Due.is("51: four in a ring", false, () -> with(4, 3, 6, 12, 9).isAcyclic());
         Due.is("51: a triangle with ears", false, () -> with(6, 11, 22, 37).isAcyclic());
@@ -172,6 +173,9 @@ public final class TwinsTest {
         Due.is("55: to three", 3, () -> ring.red());
         ring.join(2, 5);
         Due.is("55: two and two", 2, () -> ring.red());
+        Bramblehall first = Due.path(3);
+        first.join(0, 1);
+        Due.is("55: the part of 0", 1, () -> first.red());
     }
 
     private static void twinWidth() {
