@@ -27,6 +27,7 @@ public final class EmptyFullTest {
         noEdges("the last one of ten", lastOne());
         tenVertices();
         eleventh();
+        tenth();
         bags();
         twentyAgain();
         family();
@@ -442,6 +443,48 @@ public final class EmptyFullTest {
         Due.is("6: one", 1, () -> y.size());
     }
 
+    /** The last vertex of ten counts as the others do. */
+    private static void tenth() {
+        Bramblehall pair = Due.hall(10, 0, 9);
+        Due.is("20: the tenth", 10, () -> pair.decompose());
+        Due.is("20: the tenth comes first", 512, () -> pair.bagAt(0));
+        Due.is("20: beside the tenth", 513, () -> pair.bagAt(9));
+        Due.is("20: below the tenth", 0, () -> pair.above(9));
+        Due.is("46: beside the tenth", 0, () -> pair.kernel(1));
+        Bramblehall star = Due.hall(10, 0, 9, 1, 9, 2, 9);
+        Due.is("47: the tenth goes", 2, () -> star.kernelLeft(3));
+        Due.is("47: the tenth goes, as it has more", 1, () -> star.kernelLeft(2));
+        Due.is("48: the tenth covers", true, () -> star.hasCover(1));
+        Due.is("44: by the tenth", 2, () -> star.longest());
+        Due.is("45: by the tenth", 4, () -> star.link(7));
+        Due.is("28: beside the tenth", 1, () -> star.haven(1, 512));
+        star.join(0, 3);
+        star.join(1, 4);
+        star.join(2, 5);
+        Due.is("55: the tenth is red to three", 3, () -> star.red());
+        star.join(9, 6);
+        Due.is("55: the tenth and another one are red to three", 3, () -> star.red());
+        Bramblehall alone = Due.hall(10, 1, 8, 8, 9);
+        alone.join(0, 1);
+        Due.is("55: red to the last but one", 1, () -> alone.red());
+        Bramblehall last = Due.hall(10, 1, 9);
+        last.join(0, 1);
+        Due.is("55: red to the tenth", 1, () -> last.red());
+        Bramblehall four = Due.path(10);
+        for (int v = 0; v < 6; v++) {
+            four.remove(v);
+        }
+        Due.is("56: the last four", 1, () -> four.twinWidth());
+        Due.is("41: the last four", 2, () -> four.colours());
+        Due.is("42: the last four", 3L * 8, () -> four.colourings(3));
+        four.edge(9, 6, true);
+        Due.is("43: a ring of the last four", 1L, () -> four.rings());
+        Due.is("56: a ring of the last four", 0, () -> four.twinWidth());
+        Due.is("35: a ring of the last four", 64, () -> four.model('3', 0));
+        Due.is("35: a ring of the last four, at the end", 768, () -> four.model('3', 2));
+        Due.is("37: a ring of the last four", 1, () -> four.apex('f'));
+    }
+
     // ---- bags
 
     private static void bags() {
@@ -632,6 +675,21 @@ public final class EmptyFullTest {
         Due.fails("56: eight of ten are left", UNSUPPORTED, () -> ten.twinWidth());
         ten.remove(1);
         Due.is("56: seven of ten are left", 1, () -> ten.twinWidth());
+        Bramblehall clique = Due.clique(7);
+        Due.is("56: seven", 0, () -> clique.twinWidth());
+        clique.remove(6);
+        clique.vertex(1);
+        Due.is("56: another seventh, alone", 0, () -> clique.twinWidth());
+        for (int v = 0; v < 6; v++) {
+            clique.edge(7, v, true);
+        }
+        Due.is("56: another seventh, beside all", 0, () -> clique.twinWidth());
+        Due.fails("56: an eighth", UNSUPPORTED, () -> {
+            clique.vertex(1);
+            return clique.twinWidth();
+        });
+        clique.remove(0);
+        Due.is("56: seven again", 0, () -> clique.twinWidth());
     }
 
     // ---- hyperedges
@@ -726,25 +784,28 @@ public final class EmptyFullTest {
     // ---- clauses
 
     private static void clauses() {
-        Bramblehall x = Due.hall(3, 0, 1);
         for (int told = 0; told < 64; told++) {
-            int count = 0;
-            int best = -1;
-            for (int i = 0; i < 6; i++) {
-                x.clause(CLAUSES.charAt(i), (told >> i & 1) != 0);
+            clausesTogether(Due.hall(3, 0, 1), told);
+        }
+    }
+
+    private static void clausesTogether(Bramblehall x, int told) {
+        for (int i = 0; i < 6; i++) {
+            x.clause(CLAUSES.charAt(i), (told >> i & 1) != 0);
+        }
+        int count = 0;
+        int best = -1;
+        for (int set = 0; set < 8; set++) {
+            if ((told & ~keptBy(set)) == 0) {
+                count++;
+                best = best < 0 || Integer.bitCount(set) < Integer.bitCount(best) ? set : best;
             }
-            for (int set = 0; set < 8; set++) {
-                if ((told & ~keptBy(set)) == 0) {
-                    count++;
-                    best = best < 0 || Integer.bitCount(set) < Integer.bitCount(best) ? set : best;
-                }
-            }
-            Due.is("39: clauses " + told, count, () -> x.sets());
-            if (best < 0) {
-                Due.fails("40: clauses " + told, NONE, () -> x.bestSet());
-            } else {
-                Due.is("40: clauses " + told, best, () -> x.bestSet());
-            }
+        }
+        Due.is("39: clauses " + told, count, () -> x.sets());
+        if (best < 0) {
+            Due.fails("40: clauses " + told, NONE, () -> x.bestSet());
+        } else {
+            Due.is("40: clauses " + told, best, () -> x.bestSet());
         }
     }
 

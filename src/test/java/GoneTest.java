@@ -123,7 +123,8 @@ public final class GoneTest {
             if (left < 5) {
                 Due.fails("15: " + length + " told, " + what, UNSUPPORTED, () -> x.widthOf('b'));
             } else {
-                Due.is("15: " + length + " told, " + what, goneWithOrder(seed, gone, going).widthOf('b'), () -> x.widthOf('b'));
+                Due.is("15: " + length + " told, " + what, goneWithOrder(seed, gone, going).widthOf('b'),
+                        () -> x.widthOf('b'));
             }
             Due.is("14: " + length + " told, " + what, left, () -> x.clearOrder());
         }

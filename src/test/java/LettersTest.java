@@ -7,7 +7,7 @@ public final class LettersTest {
     private static final Class<?> ARGUMENT = IllegalArgumentException.class;
     private static final Class<?> NONE = java.util.NoSuchElementException.class;
     private static final Class<?> UNSUPPORTED = UnsupportedOperationException.class;
-    private static final int CALLS = 400;
+    private static final int LETTERS = 150;
 
     private interface Call {
         Object on(Bramblehall x, char letter);
@@ -22,12 +22,12 @@ public final class LettersTest {
         Due.end();
     }
 
-    /** A new hall ahead of every 400 letters, as an object is used for 512 calls alone. */
+    /** A new hall ahead of every 150 letters, as an object is used for 512 calls alone. */
     private static void all(String what, Supplier<Bramblehall> made, Function<Character, Object> wants, Call call) {
         Bramblehall x = made.get();
         for (int sign = 0; sign <= Character.MAX_VALUE; sign++) {
             char letter = (char) sign;
-            if (sign % CALLS == 0) {
+            if (sign % LETTERS == 0) {
                 x = made.get();
             }
             Bramblehall hall = x;

@@ -9,6 +9,7 @@ public final class MinorsTest {
     public static void main(String[] args) {
         hasMinor();
         models();
+        sides();
         wrongModels();
         classes();
         wrongKinds();
@@ -59,6 +60,44 @@ public final class MinorsTest {
         modelIs("three by three", Due.twoSides(3, 3), '4', 1, 8, 18, 36);
         modelIs("three by four", Due.twoSides(3, 4), 'b', 1, 2, 4, 8, 16, 32);
         modelIs("a wheel", Due.hall(5, 0, 1, 1, 2, 2, 3, 3, 0, 4, 0, 4, 1, 4, 2, 4, 3), '4', 1, 2, 12, 16);
+    }
+
+    /** However two sides are told apart, that of two comes first, and of two like ones that with the lesser set. */
+    private static void sides() {
+        for (int first = 1; first < 63; first++) {
+            Bramblehall x = Due.hall(6);
+            for (int v = 0; v < 6; v++) {
+                for (int w = 0; w < v; w++) {
+                    x.edge(v, w, (first >> v & 1) != (first >> w & 1));
+                }
+            }
+            if (Integer.bitCount(first) == 3 && (first & 1) != 0) {
+                modelIs("sides " + first, x, 'b', members(first, 63 & ~first));
+            }
+            Bramblehall five = Due.hall(5);
+            for (int v = 0; v < 5; v++) {
+                for (int w = 0; w < v; w++) {
+                    five.edge(v, w, (first >> v & 1) != (first >> w & 1));
+                }
+            }
+            if (first < 31 && Integer.bitCount(first) == 2) {
+                modelIs("sides " + first, five, 'o', members(first, 31 & ~first));
+            }
+        }
+    }
+
+    private static int[] members(int first, int second) {
+        int[] found = new int[Integer.bitCount(first) + Integer.bitCount(second)];
+        int count = 0;
+        for (int rest = first; rest != 0; rest &= rest - 1) {
+            found[count] = rest & -rest;
+            count++;
+        }
+        for (int rest = second; rest != 0; rest &= rest - 1) {
+            found[count] = rest & -rest;
+            count++;
+        }
+        return found;
     }
 
     private static void wrongModels() {

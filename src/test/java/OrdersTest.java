@@ -15,6 +15,7 @@ public final class OrdersTest {
         bounds();
         ties();
         afterChanges();
+        turnedPaths();
         Due.end();
     }
 
@@ -207,5 +208,38 @@ public final class OrdersTest {
         Due.is("12: a triangle", 2, () -> x.orderAt('b', 2));
         x.vertex(1);
         Due.is("12: and one alone", 5, () -> x.orderAt('b', 3));
+    }
+
+    /** However a path is numbered, its best order by 'b' and 'c' begins at the lesser end. */
+    private static void turnedPaths() {
+        int n = 6;
+        for (int code = 0; code < 720; code++) {
+            int[] path = new int[n];
+            int open = (1 << n) - 1;
+            int rest = code;
+            for (int i = 0; i < n; i++) {
+                path[i] = nthOf(open, rest % (n - i));
+                open &= ~(1 << path[i]);
+                rest /= n - i;
+            }
+            Bramblehall x = Due.hall(n);
+            for (int i = 0; i + 1 < n; i++) {
+                x.edge(path[i], path[i + 1], true);
+            }
+            for (int i = 0; i < n; i++) {
+                int index = i;
+                int due = path[0] < path[n - 1] ? path[i] : path[n - 1 - i];
+                Due.is("12: b of path " + code + " at " + i, due, () -> x.orderAt('b', index));
+                Due.is("12: c of path " + code + " at " + i, due, () -> x.orderAt('c', index));
+            }
+        }
+    }
+
+    private static int nthOf(int set, int index) {
+        int rest = set;
+        for (int i = 0; i < index; i++) {
+            rest &= rest - 1;
+        }
+        return Integer.numberOfTrailingZeros(rest);
     }
 }

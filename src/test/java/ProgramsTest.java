@@ -200,8 +200,8 @@ public final class ProgramsTest {
         kernelIs("a clique of more than k", Due.clique(5), 4, 31, 4);
         // 0 has more than 4 neighbours, then no one has more than 3
         kernelIs("a clique of 6", Due.clique(6), 5, 63, 5);
-        kernelIs("a hub and a ring", Due.hall(7, 0, 1, 0, 2, 0, 3, 0, 4, 0, 5, 0, 6, 1, 2, 2, 3, 3, 4, 4, 5, 5, 6, 6, 1),
-                4, 126, 3);
+        Bramblehall hub = Due.hall(7, 0, 1, 0, 2, 0, 3, 0, 4, 0, 5, 0, 6, 1, 2, 2, 3, 3, 4, 4, 5, 5, 6, 6, 1);
+        kernelIs("a hub and a ring", hub, 4, 126, 3);
         kernelIs("a leaf at a ring", Due.hall(5, 0, 1, 1, 2, 2, 3, 3, 1, 4, 0), 3, 14, 2);
         Bramblehall x = Due.path(4);
         x.kernel(2);

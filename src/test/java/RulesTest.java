@@ -141,7 +141,8 @@ public final class RulesTest {
         }
         Matcher whiles = Pattern.compile("while \\(").matcher(code);
         holds("9: loops are counted", !whiles.find());
-        holds("9: loops have a bound", !code.contains("for (;;") && !Pattern.compile("for \\([^;]*; ;").matcher(code).find());
+        holds("9: loops have a bound", !code.contains("for (;;")
+                && !Pattern.compile("for \\([^;]*; ;").matcher(code).find());
     }
 
     /** By the indent: a method of the face begins at four blanks, one of a class inside at eight. */

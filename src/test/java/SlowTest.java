@@ -10,6 +10,7 @@ public final class SlowTest {
     private final StringBuilder run = new StringBuilder();
     private int runNumber;
     private int callsMade;
+    private int told;
 
     private SlowTest(long seed, int most) {
         this.random = new Random(seed);
@@ -23,32 +24,70 @@ public final class SlowTest {
         new SlowTest(3, 5).runs(60 * times, 150);
         new SlowTest(4, 6).runs(30 * times, 200);
         new SlowTest(5, 7).runs(2 * times, 120);
+        new SlowTest(6, 4).ofTen(60 * times, 150);
+        new SlowTest(7, 5).ofTen(60 * times, 150);
+        new SlowTest(8, 6).ofTen(20 * times, 150);
         Due.end();
     }
 
     private void runs(int count, int calls) {
         for (int i = 0; i < count; i++) {
-            runNumber = i;
-            hall = new Bramblehall();
-            slow = new Slow();
-            run.setLength(0);
-            callsMade = 0;
+            begin(i);
             double likely = random.nextDouble();
             int first = random.nextInt(most + 1);
             for (int v = 0; v < first; v++) {
-                int weight = random.nextInt(5);
-                both("vertex(" + weight + ")", () -> hall.vertex(weight), () -> slow.vertex(weight));
+                tellVertex();
                 for (int w = 0; w < v; w++) {
-                    if (random.nextDouble() < likely) {
-                        int a = v;
-                        int b = w;
-                        both("edge(" + a + "," + b + ",true)", () -> hall.edge(a, b, true), () -> slow.edge(a, b, true));
-                    }
+                    tellEdge(v, w, likely);
                 }
             }
             for (int c = 0; c < calls; c++) {
                 call();
             }
+        }
+    }
+
+    /** Ten are told, of which some are left, so that the highest numbers are among them. */
+    private void ofTen(int count, int calls) {
+        for (int i = 0; i < count; i++) {
+            begin(i);
+            double likely = random.nextDouble();
+            for (int v = 0; v < 10; v++) {
+                tellVertex();
+            }
+            for (int left = 10; left > most; left = slow.size()) {
+                int gone = random.nextInt(10);
+                both("remove(" + gone + ")", () -> hall.remove(gone), () -> slow.remove(gone));
+            }
+            for (int v = 0; v < 10; v++) {
+                for (int w = 0; w < v; w++) {
+                    tellEdge(v, w, likely);
+                }
+            }
+            for (int c = 0; c < calls; c++) {
+                call();
+            }
+        }
+    }
+
+    private void begin(int number) {
+        runNumber = number;
+        hall = new Bramblehall();
+        slow = new Slow();
+        run.setLength(0);
+        callsMade = 0;
+        told = 0;
+    }
+
+    private void tellVertex() {
+        int weight = random.nextInt(5);
+        both("vertex(" + weight + ")", () -> hall.vertex(weight), () -> slow.vertex(weight));
+        told++;
+    }
+
+    private void tellEdge(int v, int w, double likely) {
+        if (random.nextDouble() < likely) {
+            both("edge(" + v + "," + w + ",true)", () -> hall.edge(v, w, true), () -> slow.edge(v, w, true));
         }
     }
 
@@ -63,7 +102,8 @@ public final class SlowTest {
     }
 
     private int vertex() {
-        return random.nextInt(12) == 0 ? random.nextInt(14) - 2 : random.nextInt(Math.min(10, most + 2));
+        int likely = told == 10 ? 10 : Math.min(10, most + 2);
+        return random.nextInt(12) == 0 ? random.nextInt(14) - 2 : random.nextInt(likely);
     }
 
     private int set() {
